@@ -104,6 +104,9 @@ public final class EscapeOwnersAgainstModel {
         // NEW, STORE, LOAD, GIVE are drawn more often; what shares all is drawn seldom.
         int[] kinds = {0, 0, 0, 1, 1, 2, 2, 3, 3, 3, 3, 4, 7, 7, 10, 10};
         int kind = random.nextInt(8) == 0 ? below(11) : kinds[random.nextInt(kinds.length)];
+        if (run % 4 == 0 && random.nextInt(3) == 0) {
+            kind = 0;   // so that some runs come to the last SITE
+        }
         int m = someMethod();
         int a = kind == 5 ? below(4) : someName();
         int b = kind == 3 || kind == 4 ? below(4) : someName();

@@ -43,6 +43,7 @@ public final class EscapeOwnersPromises {
         idle();
         calls();
         refusedChangesNothing();
+        lastOfAll();
         System.out.println(wrong == 0 ? "all answers are as due" : wrong + " answers are not as due");
         if (wrong != 0) {
             System.exit(1);
@@ -999,5 +1000,45 @@ public final class EscapeOwnersPromises {
         due("all(5)", x.all(5), 0);
         due("points(0, 4)", x.points(0, 4), 0);
         due("points(0, 3)", x.points(0, 3), 0xffff);
+    }
+
+    /** The last METHOD, NAME, SITE, FIELD and PLACE count as the others do. */
+    private static void lastOfAll() {
+        promise = 8;
+        EscapeOwners x = with(8);
+        for (int i = 0; i < 15; i++) {
+            x.step(0, NEW, 3, 0, 0);
+        }
+        x.call(0, 7, NONE, NONE, 3, 6);
+        x.step(7, NEW, 7, 0, 0);
+        x.step(7, GIVE, 7, 0, 0);
+        due("all(10)", x.all(10), 1 << 7);
+        due("all(9)", x.all(9), 1 | 1 << 7);
+        due("all(6)", x.all(6), 1 << 15);
+        due("points(0, 6)", x.points(0, 6), 1 << 15);
+        x.step(7, STORE, 7, 3, 2);
+        x.step(7, LOAD, 6, 7, 3);
+        due("field(15, 3)", x.field(15, 3), 0x7fff);
+        due("points(7, 6)", x.points(7, 6), 0x7fff);
+        due("all(7)", x.all(7), 0x7fff);
+        due("of(0, 3)", x.of(0, 3), 1);
+        due("of(0, 4)", x.of(0, 4), 1 << 15);
+        due("of(15, 5)", x.of(15, 5), 1 | 1 << 7);
+        due("of(15, 6)", x.of(15, 6), 1 << 7);
+        due("calls(7, 2)", x.calls(7, 2), 1);
+        x.step(7, STORE, 2, 3, 7);
+        due("all(8)", x.all(8), 1 << 15);
+        due("all(9)", x.all(9), 1);
+        due("all(10)", x.all(10), 0);
+        due("of(15, 3)", x.of(15, 3), 15);
+        x.undo();
+        x.step(7, PUT, 3, 7, 0);
+        due("all(5)", x.all(5), 0xffff);
+        due("all(12)", x.all(12), 1);
+        due("place(3)", x.place(3), 1 << 15);
+        x.step(7, COPY, 7, 2, 0);
+        due("parameter(7, 2, 2)", x.parameter(7, 2, 2), 3);
+        due("parameter(7, 2, 1)", x.parameter(7, 2, 1), 1);
+        due("parameter(7, 2, 0)", x.parameter(7, 2, 0), 1);
     }
 }
