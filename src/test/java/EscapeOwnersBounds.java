@@ -345,14 +345,38 @@ public final class EscapeOwnersBounds {
                 due("LOAD of FIELD " + g, x.step(0, LOAD, loaded[g], 3, g), 3 + g);
                 due("field(0, " + g + ")", x.field(0, g), g == f ? 2 : 0);
                 due("points of FIELD " + g, x.points(0, loaded[g]), g == f ? 2 : 0);
+                due("field(1, " + g + ")", x.field(1, g), 0);
             }
+            due("of(1, 3)", x.of(1, 3), 1);
+            due("of(1, 4): the SITE before it alone", x.of(1, 4), 1);
         }
+        fieldsOfNeighbours();
         EscapeOwners x = new EscapeOwners();
         step(x, 0, NEW, 3);
         for (int f : new int[] {-1, 4, 7, MIN, MAX}) {
             due("STORE to FIELD " + f, x.step(0, STORE, 3, f, 3), BAD);
             due("LOAD of FIELD " + f, x.step(0, LOAD, 3, 3, f), BAD);
             due("field(0, " + f + ")", x.field(0, f), BAD);
+        }
+    }
+
+    /** The FIELDS of a SITE are not taken for those of the SITE before it or after it. */
+    private static void fieldsOfNeighbours() {
+        for (int f = 0; f < 4; f++) {
+            EscapeOwners x = new EscapeOwners();
+            for (int i = 0; i < 4; i++) {
+                step(x, 0, NEW, 3 + i);
+            }
+            x.step(0, STORE, 4, f, 6);
+            due("reach(0, 3)", x.reach(0, 3), 1);
+            due("reach(0, 4) by FIELD " + f, x.reach(0, 4), 10);
+            due("reach(0, 5)", x.reach(0, 5), 4);
+            due("of(3, 4)", x.of(3, 4), 2);
+            for (int i = 0; i < 3; i++) {
+                step(x, 0, HAND, 3 + i);
+                due("of(3, 2): SITE " + i + " is HANDED", x.of(3, 2), i == 1 ? 1 : NONE);
+                x.undo();
+            }
         }
     }
 
@@ -1165,6 +1189,14 @@ public final class EscapeOwnersBounds {
             x.undo();
             x.call(1, 0, 4, 4, 4, NONE);
             due("all(10): a PARAMETER of another METHOD", x.all(10), 2);
+        }
+        for (int r = 0; r < 8; r++) {
+            EscapeOwners x = with(3);
+            x.call(0, 1, NONE, NONE, NONE, r);
+            step(x, 1, NEW, 7);
+            step(x, 1, GIVE, 7);
+            call(x, 0, 2);
+            due("all(10): any NAME of what CALLS it", x.all(10), 2);
         }
     }
 
