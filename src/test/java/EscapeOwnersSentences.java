@@ -24,34 +24,76 @@ public final class EscapeOwnersSentences {
     private static int wrong = 0;
 
     public static void main(String[] args) throws IOException {
-        whatItIs();
-        numbers();
-        kindsThatMove();
-        kindsThatCall();
-        kindsThatLetGo();
-        live();
-        leastSets();
-        liveAlone();
-        shared();
-        out();
-        held();
-        locks();
-        marked();
-        kept();
-        fresh();
-        pure();
-        refusals();
-        promisesOfChange();
-        promisesOfWhatWasTold();
-        promisesOfPoints();
-        promisesOfSites();
-        promisesOfMethods();
+        numbersAndKinds();
+        whatFollows();
+        howItAnswers();
+        promises();
         notPromised();
         everySentenceIsQuoted();
         System.out.println(wrong == 0 ? "all answers are as due" : wrong + " answers are not as due");
         if (wrong != 0) {
             System.exit(1);
         }
+    }
+
+    private static void numbersAndKinds() {
+        whatItIs();
+        namesAndSteps();
+        fieldsAndPlaces();
+        namesAreOfTheirMethod();
+        kindNew();
+        kindCopy();
+        kindLoad();
+        kindStore();
+        kindTake();
+        kindPut();
+        kindCall();
+        kindGive();
+        kindsThatLetGo();
+    }
+
+    private static void whatFollows() {
+        live();
+        leastSets();
+        liveAlone();
+        shared();
+        out();
+        stays();
+        holders();
+        owned();
+        fixed();
+        locks();
+        marked();
+        kept();
+        fresh();
+        pure();
+    }
+
+    private static void howItAnswers() {
+        refusalsInOrder();
+        refusedChangesNothing();
+        setsAreNumbers();
+    }
+
+    private static void promises() {
+        promiseOfNewObject();
+        promiseOfClear();
+        promiseOfMethod();
+        promiseOfStep();
+        promiseOfCall();
+        promiseOfUndo();
+        promiseOfTold();
+        promiseOfAll();
+        promiseOfPoints();
+        promiseOfField();
+        promiseOfPlace();
+        promiseOfResult();
+        promiseOfOf();
+        promiseOfMeet();
+        promiseOfReach();
+        promiseOfParameter();
+        promiseOfIdle();
+        promiseOfCalls();
     }
 
     // The tests below tell STEPS as texts ("0 STORE 3 1 4": METHOD, KIND, what it needs; '-' is NONE,
@@ -171,7 +213,7 @@ public final class EscapeOwnersSentences {
         }
     }
 
-    private static void numbers() {
+    private static void namesAndSteps() {
         says("7 each have NAMES 0 .. 7, of which 0 .. 2 are PARAMETERS, and STEPS, 64 in all, numbered as they come.");
         for (int m = 0; m < 8; m++) {
             for (int name = 0; name < 8; name++) {
@@ -189,7 +231,20 @@ public final class EscapeOwnersSentences {
         }
         due(x, "step(0, 1, 3, 4, 0)", FULL);
         due(x, "call(0, 1, 3, 4, 5, 6)", FULL);
+        // The last STEP is as good as any other.
+        due(x, "undo()", 63);
+        and(x, "7 CALL 1 2 3 4 5");
+        int[] lastCall = {7, CALL, NONE, 1, 2, 3, 4, 5};
+        for (int what = 0; what < 8; what++) {
+            due(x, "told(63, " + what + ")", lastCall[what]);
+        }
+        due(x, "undo()", 63);
+        and(x, "0 NEW 6");
+        due(x, "points(0, 6)", 1);
+        due(x, "of(0, 1)", 63);
+    }
 
+    private static void fieldsAndPlaces() {
         says("FIELDS 0 .. 3, PLACES 0 .. 3 (for all).");
         for (int number = -1; number <= 4; number++) {
             boolean within = number >= 0 && number < 4;
@@ -200,7 +255,7 @@ public final class EscapeOwnersSentences {
             due(given(1), "step(0, 4, 3, " + number + ", 0)", within ? 0 : BAD);
             due(given(1), "step(0, 5, " + number + ", 3, 0)", within ? 0 : BAD);
         }
-        x = given(3, "0 CALL 1", "0 CALL 2", "1 NEW 3", "1 PUT 3 3", "2 TAKE 4 3");
+        EscapeOwners x = given(3, "0 CALL 1", "0 CALL 2", "1 NEW 3", "1 PUT 3 3", "2 TAKE 4 3");
         due(x, "points(2, 4)", 1);
         for (int f = 0; f < 4; f++) {
             x = and(withAllSites(1), "0 STORE 7 " + f + " 6", "0 LOAD 0 7 " + f);
@@ -210,9 +265,11 @@ public final class EscapeOwnersSentences {
             }
             due(x, "points(0, 0)", 1 | 1 << 8 | 1 << 6 | 1 << 14);
         }
+    }
 
+    private static void namesAreOfTheirMethod() {
         says("STEPS, by KIND, of a METHOD (x, y, z NAMES of it):");
-        x = given(2, "0 CALL 1", "0 NEW 3", "1 NEW 4", "1 COPY 5 3", "0 COPY 6 4");
+        EscapeOwners x = given(2, "0 CALL 1", "0 NEW 3", "1 NEW 4", "1 COPY 5 3", "0 COPY 6 4");
         due(x, "points(1, 3)", 0);
         due(x, "points(1, 5)", 0);
         due(x, "points(0, 4)", 0);
@@ -230,7 +287,7 @@ public final class EscapeOwnersSentences {
         due(x, "points(8, " + name + ")", BAD);
     }
 
-    private static void kindsThatMove() {
+    private static void kindNew() {
         says("0 NEW x: x points to the SITE that this STEP is (16 SITES at most, numbered as they come).");
         EscapeOwners x = given(2, "0 COPY 6 7", "1 NEW 3", "0 NEW 3", "0 NEW 3", "0 COPY 6 7", "0 NEW 5");
         due(x, "points(0, 3)", 2 | 4);
@@ -241,27 +298,34 @@ public final class EscapeOwnersSentences {
         due(x, "of(3, 1)", 5);
         x = withAllSites(1);
         due(x, "told(15, 2)", 15);
+        due(x, "of(15, 1)", 15);
         due(x, "points(0, 7)", 1 << 7 | 1 << 15);
         due(x, "step(0, 0, 3, 0, 0)", FULL);
         due(x, "step(0, 1, 3, 4, 0)", 16);
+    }
 
+    private static void kindCopy() {
         says("1 COPY x, y: x to what y does.");
-        x = given(1, "0 NEW 3", "0 COPY 4 3", "0 NEW 4");
+        EscapeOwners x = given(1, "0 NEW 3", "0 COPY 4 3", "0 NEW 4");
         due(x, "points(0, 4)", 1 | 2);
         due(x, "points(0, 3)", 1);
         due(x, "points(0, 5)", 0);
+    }
 
+    private static void kindLoad() {
         says("2 LOAD x, y, f: x to what FIELD f of what y points to does.");
-        x = given(1, "0 NEW 3", "0 NEW 4", "0 NEW 5", "0 STORE 3 1 4", "0 STORE 3 2 5",
+        EscapeOwners x = given(1, "0 NEW 3", "0 NEW 4", "0 NEW 5", "0 STORE 3 1 4", "0 STORE 3 2 5",
             "0 LOAD 6 3 1", "0 LOAD 7 3 3", "0 LOAD 0 4 1");
         due(x, "points(0, 6)", 2);
         due(x, "points(0, 7)", 0);
         due(x, "points(0, 0)", 0);
         and(x, "0 NEW 2", "0 STORE 2 1 5", "0 COPY 3 2");
         due(x, "points(0, 6)", 2 | 4);
+    }
 
+    private static void kindStore() {
         says("3 STORE x, f, y: FIELD f of what x points to, to what y does.");
-        x = given(1, "0 NEW 3", "0 NEW 3", "0 NEW 4", "0 NEW 5", "0 STORE 3 2 4");
+        EscapeOwners x = given(1, "0 NEW 3", "0 NEW 3", "0 NEW 4", "0 NEW 5", "0 STORE 3 2 4");
         due(x, "field(0, 2)", 4);
         due(x, "field(1, 2)", 4);
         due(x, "field(2, 2)", 0);
@@ -270,22 +334,26 @@ public final class EscapeOwnersSentences {
         and(x, "0 STORE 3 2 5");
         due(x, "field(0, 2)", 4 | 8);
         due(x, "points(0, 3)", 1 | 2);
+    }
 
+    private static void kindTake() {
         says("4 TAKE x, s: x to what PLACE s does.");
-        x = given(1, "0 NEW 3", "0 PUT 1 3", "0 TAKE 4 1", "0 TAKE 5 2");
+        EscapeOwners x = given(1, "0 NEW 3", "0 PUT 1 3", "0 TAKE 4 1", "0 TAKE 5 2");
         due(x, "points(0, 4)", 1);
         due(x, "points(0, 5)", 0);
         due(x, "points(0, 1)", 0);
+    }
 
+    private static void kindPut() {
         says("5 PUT s, x: PLACE s to what x does.");
-        x = given(1, "0 NEW 3", "0 NEW 4", "0 PUT 3 3", "0 PUT 3 4", "0 PUT 0 4");
+        EscapeOwners x = given(1, "0 NEW 3", "0 NEW 4", "0 PUT 3 3", "0 PUT 3 4", "0 PUT 0 4");
         due(x, "place(0)", 2);
         due(x, "place(1)", 0);
         due(x, "place(2)", 0);
         due(x, "place(3)", 1 | 2);
     }
 
-    private static void kindsThatCall() {
+    private static void kindCall() {
         says("6 CALL m, x, y, z, r: METHOD m's PARAMETERS 0, 1, 2 to what x, y, z do (NONE: not told), "
             + "NAME r (NONE: none) to what m's RESULT does.");
         EscapeOwners x = given(3, "0 NEW 3", "0 NEW 4", "0 NEW 5", "0 CALL 2 3 4 5 6", "2 NEW 7", "2 GIVE 7");
@@ -310,9 +378,11 @@ public final class EscapeOwnersSentences {
             due(x, "points(0, " + name + ")", 0);
             due(x, "points(1, " + name + ")", 0);
         }
+    }
 
+    private static void kindGive() {
         says("7 GIVE x: the METHOD'S RESULT to what x does.");
-        x = given(2, "0 NEW 3", "0 NEW 4", "0 GIVE 3", "0 CALL 1 4");
+        EscapeOwners x = given(2, "0 NEW 3", "0 NEW 4", "0 GIVE 3", "0 CALL 1 4");
         due(x, "result(0)", 1);
         due(x, "result(1)", 0);
         and(x, "0 GIVE 4");
@@ -513,15 +583,17 @@ public final class EscapeOwnersSentences {
         due(and(x, "1 STORE 1 2 5"), "all(6)", 2 | 4);
         // What another METHOD is given or GIVES does not get out of its own.
         due(given(2, "0 NEW 3", "0 NEW 4", "0 STORE 3 0 4", "0 CALL 1 3 - - 5", "1 GIVE 0"), "all(6)", 0);
+    }
 
+    private static void stays() {
         says("What is not OUT STAYS.");
-        x = given(2, "0 CALL 1 - - - 3", "1 NEW 3", "1 NEW 4", "1 GIVE 3", "1 STORE 4 0 3", "1 LOCK 4");
+        EscapeOwners x = given(2, "0 CALL 1 - - - 3", "1 NEW 3", "1 NEW 4", "1 GIVE 3", "1 STORE 4 0 3", "1 LOCK 4");
         due(x, "all(4)", 1 | 2);
         due(x, "all(6)", 1);
         due(x, "of(0, 0)", 1);
     }
 
-    private static void held() {
+    private static void holders() {
         says("HOLDERS of a SITE: pairs of a SITE and a FIELD that points to it.");
         EscapeOwners x = given(1, "0 NEW 3", "0 NEW 4", "0 NEW 5", "0 PUT 0 4", "0 GIVE 4", "0 COPY 6 4");
         due(x, "of(1, 3)", 0);
@@ -530,9 +602,11 @@ public final class EscapeOwnersSentences {
         due(x, "of(1, 4)", 1 | 2);
         due(x, "of(0, 3)", 0);
         due(x, "of(2, 3)", 0);
+    }
 
+    private static void owned() {
         says("OWNED is one with just one HOLDER, to which no PLACE points.");
-        x = given(1, "0 NEW 3", "0 NEW 4", "0 NEW 5");
+        EscapeOwners x = given(1, "0 NEW 3", "0 NEW 4", "0 NEW 5");
         due(x, "all(7)", 0);
         and(x, "0 STORE 3 0 4");
         due(x, "all(7)", 2);
@@ -547,9 +621,11 @@ public final class EscapeOwnersSentences {
         due(given(1, "0 NEW 3", "0 NEW 4", "0 STORE 4 3 3"), "all(7)", 1);
         due(withChain(), "all(7)", ALL_SITES & ~1);
         due(withChain(), "of(15, 4)", 1 << 14);
+    }
 
+    private static void fixed() {
         says("FIXED is a SITE, if no STORE of another METHOD than its own is to what may be it.");
-        x = given(3, "0 NEW 3", "0 NEW 4", "0 STORE 3 0 4", "0 CALL 1 3 4", "1 LOAD 5 0 0", "1 STORE 6 0 1", "1 LOCK 0");
+        EscapeOwners x = given(3, "0 NEW 3", "0 NEW 4", "0 STORE 3 0 4", "0 CALL 1 3 4", "1 LOAD 5 0 0", "1 STORE 6 0 1", "1 LOCK 0");
         due(x, "all(8)", 1 | 2);
         and(x, "1 STORE 0 2 7");
         due(x, "all(8)", 2);
@@ -701,7 +777,7 @@ public final class EscapeOwnersSentences {
         due(given(3, "0 NEW 3", "0 CALL 1 3", "1 CALL 2 0", "2 STORE 0 0 0"), "all(9)", 1);
     }
 
-    private static void refusals() {
+    private static void refusalsInOrder() {
         says("REFUSALS are answers: BAD (a number is none, or out of its bounds) first; then what a call names, "
             + "in the order named.");
         EscapeOwners x = given(2, "1 LOCK 3", "1 NEW 3");
@@ -726,9 +802,11 @@ public final class EscapeOwnersSentences {
         due(x, "call(0, 1, 0, 0, 0, 0)", BAD);
         due(x, "call(0, 0, 0, 0, 0, -2)", BAD);
         due(x, "call(0, 0, 0, 0, 0, -1)", FULL);
+    }
 
+    private static void refusedChangesNothing() {
         says("What is refused changes nothing.");
-        x = withAllSites(8);
+        EscapeOwners x = withAllSites(8);
         and(x, "0 LOCK 3");
         String[] refused = {"method()", "step(0, 0, 3, 0, 0)", "step(8, 5, 0, 3, 0)", "step(0, 5, 4, 3, 0)",
             "step(0, 5, 0, 8, 0)", "step(0, 3, 3, 4, 3)", "step(0, 6, 1, 3, 3)", "call(0, 8, 3, 3, 3, 3)",
@@ -747,9 +825,11 @@ public final class EscapeOwnersSentences {
             due(x, "told(16, 1)", 10);
         }
         due(x, "step(0, 1, 3, 4, 0)", 17);
+    }
 
+    private static void setsAreNumbers() {
         says("Sets are told as numbers (bit s for SITE s, METHOD s).");
-        x = given(8, "0 CALL 7", "0 CALL 2");
+        EscapeOwners x = given(8, "0 CALL 7", "0 CALL 2");
         for (int i = 0; i < 16; i++) {
             and(x, "0 NEW " + (i % 2 == 0 ? 3 : 4));
         }
@@ -773,10 +853,12 @@ public final class EscapeOwnersSentences {
         }
     }
 
-    private static void promisesOfChange() {
+    private static void promiseOfNewObject() {
         says("`EscapeOwners()`: METHOD 0 alone, without STEPS.");
         asAtFirst(new EscapeOwners());
+    }
 
+    private static void promiseOfClear() {
         says("`int clear()`: As at first: how many STEPS there were.");
         EscapeOwners x = given(3, "0 NEW 3", "0 PUT 2 3", "0 CALL 2 3", "2 STORE 0 0 0", "0 GIVE 3");
         due(x, "all(5)", 1);
@@ -787,9 +869,11 @@ public final class EscapeOwnersSentences {
         due(x, "method()", 1);
         due(x, "clear()", 0);
         asAtFirst(x);
+    }
 
+    private static void promiseOfMethod() {
         says("`int method()`: A METHOD more, without STEPS: its number.");
-        x = given(1, "0 NEW 3");
+        EscapeOwners x = given(1, "0 NEW 3");
         for (int m = 1; m < 8; m++) {
             due(x, "points(" + m + ", 0)", BAD);
             due(x, "method()", m);
@@ -800,10 +884,12 @@ public final class EscapeOwnersSentences {
         says("FULL: 8.");
         due(x, "method()", FULL);
         due(x, "all(0)", 8);
+    }
 
+    private static void promiseOfStep() {
         says("`int step(int m, int kind, int a, int b, int c)`: A STEP of METHOD m of KIND 0 .. 5, 7 .. 10, "
             + "with what it needs as above (others do not count): its number.");
-        x = given(3);
+        EscapeOwners x = given(3);
         int number = 0;
         for (int kind = 0; kind < 11; kind++) {
             due(x, "step(" + kind % 3 + ", " + kind + ", 1, 2, 3)", kind == CALL ? BAD : number);
@@ -829,9 +915,11 @@ public final class EscapeOwnersSentences {
         says("BAD; FULL: 64 STEPS, or a 17th SITE.");
         stepsThatAreBad(given(2));
         stepsThatAreFull();
+    }
 
+    private static void promiseOfCall() {
         says("`int call(int m, int to, int x, int y, int z, int r)`: A CALL, a STEP of METHOD m: its number.");
-        x = given(3, "0 NEW 3");
+        EscapeOwners x = given(3, "0 NEW 3");
         due(x, "call(2, 1, 3, -1, 4, 5)", 1);
         due(x, "call(0, 2, -1, -1, -1, -1)", 2);
         due(x, "told(1, 0)", 2);
@@ -849,9 +937,11 @@ public final class EscapeOwnersSentences {
             due(x, "call(0, 1, 7, 0, -1, 7)", i);
         }
         due(x, "call(0, 1, 7, 0, -1, 7)", FULL);
+    }
 
+    private static void promiseOfUndo() {
         says("`int undo()`: The last STEP goes (a SITE with it): how many are left.");
-        x = given(2, "0 NEW 3", "0 PUT 1 3", "1 NEW 3", "0 CALL 1 3");
+        EscapeOwners x = given(2, "0 NEW 3", "0 PUT 1 3", "1 NEW 3", "0 CALL 1 3");
         due(x, "points(1, 0)", 1);
         due(x, "undo()", 3);
         due(x, "points(1, 0)", 0);
@@ -868,6 +958,14 @@ public final class EscapeOwnersSentences {
         due(x, "undo()", 0);
         due(x, "points(0, 3)", 0);
         due(x, "all(0)", 2);
+        x = given(2, "0 NEW 3", "0 GIVE 3", "0 STORE 3 0 3");
+        due(x, "field(0, 0)", 1);
+        due(x, "undo()", 2);
+        due(x, "field(0, 0)", 0);
+        due(x, "result(0)", 1);
+        due(x, "undo()", 1);
+        due(x, "result(0)", 0);
+        due(x, "undo()", 0);
         says("NONE: there is none.");
         due(x, "undo()", NONE);
         due(new EscapeOwners(), "undo()", NONE);
@@ -918,7 +1016,7 @@ public final class EscapeOwnersSentences {
         }
     }
 
-    private static void promisesOfWhatWasTold() {
+    private static void promiseOfTold() {
         says("`int told(int step, int what)`: Of a STEP: what = 0 its METHOD, 1 its KIND, 2 its SITE (NONE), "
             + "3 .. 7 what it needs, in the order named (NONE: nothing so).");
         EscapeOwners x = given(3, "1 NEW 5", "0 COPY 1 2", "0 LOAD 4 5 3", "2 STORE 6 1 7", "0 TAKE 7 3", "0 PUT 2 6",
@@ -936,12 +1034,14 @@ public final class EscapeOwnersSentences {
         due(x, "told(-1, 0)", -2);
         due(x, "told(0, -1)", -2);
         due(x, "told(0, 8)", -2);
+    }
 
+    private static void promiseOfAll() {
         says("`int all(int what)`: What = 0 METHODS, 1 STEPS, 2 SITES, 3 the set of LIVE METHODS, 4 of LIVE "
             + "SITES, 5 SHARED, 6 OUT, 7 OWNED, 8 FIXED, 9 PURE METHODS, 10 METHODS with a FRESH RESULT, 11 "
             + "how many LOCKS are IDLE, 12 how many rounds: the greatest LEVEL of a SHARED SITE (NONE: none is).");
         // SITES 0 and 1 are METHOD 0's, 2 and 3 METHOD 1's; METHOD 2's SITE 4 is not LIVE.
-        x = given(3, "0 NEW 3", "0 NEW 4", "0 CALL 1 4 - - 5", "1 NEW 3", "1 NEW 4", "1 GIVE 3", "1 STORE 3 0 4",
+        EscapeOwners x = given(3, "0 NEW 3", "0 NEW 4", "0 CALL 1 4 - - 5", "1 NEW 3", "1 NEW 4", "1 GIVE 3", "1 STORE 3 0 4",
             "1 STORE 0 0 0", "2 NEW 3", "0 LOCK 5", "0 LOCK 6", "1 LOCK 4");
         int[] wants = {3, 12, 5, 3, 15, 0, 4 | 8, 2 | 8, 1 | 4 | 8, 1, 2, 2, NONE};
         for (int what = 0; what < wants.length; what++) {
@@ -957,7 +1057,7 @@ public final class EscapeOwnersSentences {
         due(x, "all(13)", BAD);
     }
 
-    private static void promisesOfPoints() {
+    private static void promiseOfPoints() {
         says("`int points(int m, int x)`: What a NAME of a METHOD points to (0, if it is not LIVE).");
         EscapeOwners x = given(3, "0 NEW 3", "0 NEW 4", "0 CALL 1 - 4", "1 NEW 1", "2 NEW 3");
         due(x, "points(0, 3)", 1);
@@ -969,9 +1069,11 @@ public final class EscapeOwnersSentences {
         due(x, "points(-1, 0)", BAD);
         due(x, "points(0, 8)", BAD);
         due(x, "points(2, -1)", BAD);
+    }
 
+    private static void promiseOfField() {
         says("`int field(int site, int f)`: What FIELD f of a SITE points to.");
-        x = given(2, "0 NEW 3", "0 NEW 4", "0 STORE 3 3 4", "0 STORE 4 0 3", "0 STORE 4 0 4", "1 NEW 3", "1 STORE 3 1 3");
+        EscapeOwners x = given(2, "0 NEW 3", "0 NEW 4", "0 STORE 3 3 4", "0 STORE 4 0 3", "0 STORE 4 0 4", "1 NEW 3", "1 STORE 3 1 3");
         due(x, "field(0, 3)", 2);
         due(x, "field(0, 0)", 0);
         due(x, "field(1, 0)", 1 | 2);
@@ -981,9 +1083,11 @@ public final class EscapeOwnersSentences {
         due(x, "field(-1, 0)", BAD);
         due(x, "field(0, 4)", BAD);
         due(x, "field(0, -1)", BAD);
+    }
 
+    private static void promiseOfPlace() {
         says("`int place(int s)`: What PLACE s points to.");
-        x = given(2, "0 NEW 3", "0 NEW 4", "0 PUT 2 3", "0 PUT 2 4", "0 PUT 3 4", "1 NEW 3", "1 PUT 0 3");
+        EscapeOwners x = given(2, "0 NEW 3", "0 NEW 4", "0 PUT 2 3", "0 PUT 2 4", "0 PUT 3 4", "1 NEW 3", "1 PUT 0 3");
         int[] places = {0, 0, 3, 2};
         for (int place = 0; place < 4; place++) {
             due(x, "place(" + place + ")", places[place]);
@@ -991,9 +1095,11 @@ public final class EscapeOwnersSentences {
         says("BAD.");
         due(x, "place(4)", BAD);
         due(x, "place(-1)", BAD);
+    }
 
+    private static void promiseOfResult() {
         says("`int result(int m)`: What a METHOD'S RESULT points to.");
-        x = given(3, "0 NEW 3", "0 CALL 1 3", "1 GIVE 0", "1 NEW 4", "1 GIVE 4", "2 NEW 3", "2 GIVE 3");
+        EscapeOwners x = given(3, "0 NEW 3", "0 CALL 1 3", "1 GIVE 0", "1 NEW 4", "1 GIVE 4", "2 NEW 3", "2 GIVE 3");
         due(x, "result(0)", 0);
         due(x, "result(1)", 1 | 2);
         due(x, "result(2)", 0);
@@ -1002,7 +1108,7 @@ public final class EscapeOwnersSentences {
         due(x, "result(-1)", BAD);
     }
 
-    private static void promisesOfSites() {
+    private static void promiseOfOf() {
         says("`int of(int site, int what)`: Of a SITE: what = 0 its METHOD, 1 its STEP, 2 its LEVEL (NONE), 3 how "
             + "many HOLDERS it has, 4 the SITES among its HOLDERS, 5 METHODS of which some NAME points to it, 6 "
             + "METHODS whose STORES are to what may be it.");
@@ -1014,16 +1120,27 @@ public final class EscapeOwnersSentences {
                 due(x, "of(" + site + ", " + what + ")", rows[site][what]);
             }
         }
+        x = given(1);
+        for (int i = 0; i < 15; i++) {
+            and(x, "0 NEW 3");
+        }
+        and(x, "0 NEW 4", "0 STORE 4 0 3", "0 LOAD 5 4 0");
+        due(x, "of(14, 3)", 1);
+        due(x, "of(14, 4)", 1 << 15);
+        due(x, "points(0, 5)", ALL_SITES >> 1);
+        x = given(1, "0 NEW 3", "0 NEW 4", "0 NEW 5");
         says("BAD.");
         due(x, "of(3, 0)", BAD);
         due(x, "of(-1, 0)", BAD);
         due(x, "of(0, 7)", BAD);
         due(x, "of(0, -1)", BAD);
+    }
 
+    private static void promiseOfMeet() {
         says("`int meet(int m, int x, int k, int y)`: Whether one may be the other (1 or 0): what NAME x of METHOD m "
             + "and NAME y of METHOD k point to has a SITE in common.");
         due(given(1, "0 NEW 3", "0 COPY 4 3"), "meet(0, 3, 0, 4)", 1);
-        x = given(2, "0 NEW 3", "0 NEW 4", "0 COPY 5 3", "0 COPY 5 4", "0 CALL 1 - 4", "0 STORE 3 0 4");
+        EscapeOwners x = given(2, "0 NEW 3", "0 NEW 4", "0 COPY 5 3", "0 COPY 5 4", "0 CALL 1 - 4", "0 STORE 3 0 4");
         due(x, "meet(0, 3, 0, 3)", 1);
         due(x, "meet(0, 3, 0, 4)", 0);
         due(x, "meet(0, 5, 0, 4)", 1);
@@ -1040,12 +1157,14 @@ public final class EscapeOwnersSentences {
         due(x, "meet(0, 0, -1, 0)", BAD);
         due(x, "meet(0, 0, 0, 8)", BAD);
         due(x, "meet(0, 0, 0, -1)", BAD);
+    }
 
+    private static void promiseOfReach() {
         says("`int reach(int m, int x)`: All SITES that are come to from what a NAME points to by FIELDS (none, one "
             + "or more).");
         due(given(1, "0 NEW 3", "0 NEW 4", "0 STORE 3 0 4"), "reach(0, 3)", 1 | 2);
         due(withChain(), "reach(0, 1)", ALL_SITES);
-        x = given(2, "0 NEW 3", "0 NEW 4", "0 NEW 5", "0 NEW 6", "0 NEW 7", "0 STORE 3 0 4", "0 STORE 4 3 5",
+        EscapeOwners x = given(2, "0 NEW 3", "0 NEW 4", "0 NEW 5", "0 NEW 6", "0 NEW 7", "0 STORE 3 0 4", "0 STORE 4 3 5",
             "0 STORE 5 1 4", "0 STORE 6 2 3", "0 PUT 0 7");
         due(x, "reach(0, 0)", 0);
         due(x, "reach(0, 7)", 16);
@@ -1060,7 +1179,7 @@ public final class EscapeOwnersSentences {
         due(x, "reach(0, -1)", BAD);
     }
 
-    private static void promisesOfMethods() {
+    private static void promiseOfParameter() {
         says("`int parameter(int m, int p, int what)`: Of PARAMETER p (0 .. 2) of a METHOD: what = 0 whether it is "
             + "KEPT, 1 whether it comes BACK, 2 how many NAMES are MARKED by it.");
         EscapeOwners x = given(3, "0 CALL 1", "1 PUT 0 0", "1 GIVE 1", "1 COPY 3 2", "1 COPY 4 3", "2 START 0");
@@ -1080,9 +1199,11 @@ public final class EscapeOwnersSentences {
         for (int what = 0; what < 3; what++) {
             due(x, "parameter(2, 0, " + what + ")", NONE);
         }
+    }
 
+    private static void promiseOfIdle() {
         says("`int idle(int step)`: Whether a LOCK is IDLE (1 or 0).");
-        x = given(2, "0 NEW 3", "0 NEW 4", "0 START 4", "0 LOCK 3", "0 LOCK 4", "0 LOCK 5", "1 LOCK 3", "1 NEW 3");
+        EscapeOwners x = given(2, "0 NEW 3", "0 NEW 4", "0 START 4", "0 LOCK 3", "0 LOCK 4", "0 LOCK 5", "1 LOCK 3", "1 NEW 3");
         due(x, "idle(3)", 1);
         due(x, "idle(4)", 0);
         due(x, "idle(5)", 0);
@@ -1093,11 +1214,13 @@ public final class EscapeOwnersSentences {
         due(x, "idle(2)", BAD);
         due(x, "idle(7)", BAD);
         due(x, "idle(6)", NONE);
+    }
 
+    private static void promiseOfCalls() {
         says("`int calls(int m, int what)`: METHODS that a METHOD CALLS (what = 0), or what these CALL, too, and so "
             + "on (1); that CALL it (2).");
-        x = given(5, "0 CALL 1", "1 CALL 2", "2 CALL 1", "0 CALL 3", "3 CALL 3", "0 CALL 3", "2 CALL 4");
-        rows = new int[][] {{2 | 8, 2 | 4 | 8 | 16, 0}, {4, 2 | 4 | 16, 1 | 4}, {2 | 16, 2 | 4 | 16, 2}, {8, 8, 1 | 8},
+        EscapeOwners x = given(5, "0 CALL 1", "1 CALL 2", "2 CALL 1", "0 CALL 3", "3 CALL 3", "0 CALL 3", "2 CALL 4");
+        int[][] rows = new int[][] {{2 | 8, 2 | 4 | 8 | 16, 0}, {4, 2 | 4 | 16, 1 | 4}, {2 | 16, 2 | 4 | 16, 2}, {8, 8, 1 | 8},
             {0, 0, 4}};
         for (int m = 0; m < 5; m++) {
             for (int what = 0; what < 3; what++) {
