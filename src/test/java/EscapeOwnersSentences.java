@@ -499,6 +499,8 @@ public final class EscapeOwnersSentences {
         due(x, "calls(1, 0)", 0);
         due(x, "calls(1, 1)", 0);
         due(x, "calls(2, 2)", 0);
+        due(given(8, "7 CALL 0"), "calls(7, 0)", 0);
+        due(given(8, "7 CALL 0"), "calls(0, 2)", 0);
         and(x, "0 CALL 1");
         int[] then = {7, 1, 1 | 2, 0, 2 | 4, 0, 4, 0, 0};
         for (int i = 0; i < whats.length; i++) {
@@ -966,11 +968,30 @@ public final class EscapeOwnersSentences {
         due(x, "undo()", 1);
         due(x, "result(0)", 0);
         due(x, "undo()", 0);
+        undone("0 START 3", "all(5)", 1, 0);
+        undone("0 HAND 3", "all(9)", 2, 3);
+        undone("1 STORE 0 0 7", "of(0, 6)", 2, 0);
+        undone("1 STORE 0 0 7", "all(8)", 0, 1);
+        undone("0 LOCK 3", "all(11)", 1, 0);
+        undone("1 COPY 5 0", "parameter(1, 0, 2)", 2, 1);
+        undone("1 GIVE 0", "parameter(1, 0, 1)", 1, 0);
+        undone("1 PUT 0 0", "parameter(1, 0, 0)", 1, 0);
+        undone("1 CALL 0 0", "calls(1, 0)", 1, 0);
         says("NONE: there is none.");
         due(x, "undo()", NONE);
         due(new EscapeOwners(), "undo()", NONE);
         and(x, "1 NEW 5");
         due(x, "told(0, 2)", 0);
+    }
+
+    /** What a question answers with one STEP more, and again without it. */
+    private static void undone(String step, String question, int with, int without) {
+        EscapeOwners x = given(2, "0 NEW 3", "0 CALL 1 3");
+        due(x, question, without);
+        and(x, step);
+        due(x, question, with);
+        due(x, "undo()", 2);
+        due(x, question, without);
     }
 
     private static void asAtFirst(EscapeOwners x) {
